@@ -1,0 +1,56 @@
+/** Counts the answers that are not the ones that are due, and tells of them. */
+final class Due {
+    interface Call {
+        Object answer();
+    }
+
+    private static int wrong = 0;
+
+    private Due() {
+    }
+
+    static void same(String what, Object due, Object got) {
+        if (!due.equals(got)) {
+            wrong++;
+            if (wrong <= 50) {
+                System.out.println(what + " answered " + got + ", due is " + due);
+            }
+        }
+    }
+
+    /** The answer of a call, or "throws." with the name of what it throws. */
+    static Object outcome(Call call) {
+        try {
+            return call.answer();
+        } catch (RuntimeException e) {
+            return "throws." + e.getClass().getSimpleName();
+        }
+    }
+
+    static void call(String what, Object due, Call call) {
+        same(what, due, outcome(call));
+    }
+
+    static void argument(String what, Call call) {
+        call(what, "throws.IllegalArgumentException", call);
+    }
+
+    static void index(String what, Call call) {
+        call(what, "throws.IndexOutOfBoundsException", call);
+    }
+
+    static void state(String what, Call call) {
+        call(what, "throws.IllegalStateException", call);
+    }
+
+    static int wrongSoFar() {
+        return wrong;
+    }
+
+    static void end(String name) {
+        System.out.println(name + ": " + (wrong == 0 ? "all answers are as due" : wrong + " wrong answers"));
+        if (wrong > 0) {
+            System.exit(1);
+        }
+    }
+}
