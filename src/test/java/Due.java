@@ -4,16 +4,28 @@ final class Due {
         Object answer();
     }
 
+    static final String ARGUMENT = "throws.IllegalArgumentException";
+    static final String INDEX = "throws.IndexOutOfBoundsException";
+    static final String STATE = "throws.IllegalStateException";
+
     private static int wrong = 0;
+    private static int compared = 0;
+    private static String test = "";
 
     private Due() {
     }
 
+    /** Tells which test the answers that follow belong to. */
+    static void begin(String name) {
+        test = name + ": ";
+    }
+
     static void same(String what, Object due, Object got) {
+        compared++;
         if (!due.equals(got)) {
             wrong++;
             if (wrong <= 50) {
-                System.out.println(what + " answered " + got + ", due is " + due);
+                System.out.println(test + what + " answered " + got + ", due is " + due);
             }
         }
     }
@@ -32,19 +44,23 @@ final class Due {
     }
 
     static void argument(String what, Call call) {
-        call(what, "throws.IllegalArgumentException", call);
+        call(what, ARGUMENT, call);
     }
 
     static void index(String what, Call call) {
-        call(what, "throws.IndexOutOfBoundsException", call);
+        call(what, INDEX, call);
     }
 
     static void state(String what, Call call) {
-        call(what, "throws.IllegalStateException", call);
+        call(what, STATE, call);
     }
 
     static int wrongSoFar() {
         return wrong;
+    }
+
+    static int comparedSoFar() {
+        return compared;
     }
 
     static void end(String name) {

@@ -1,9 +1,5 @@
 /** Each promise by hand-made cases: ordinary inputs, the edges that the document names, wrong inputs. */
-final class PromiseTests {
-    private static final int NONE = -9;
-    private static final int MIN = Integer.MIN_VALUE;
-    private static final int MAX = Integer.MAX_VALUE;
-
+final class PromiseTests extends Bench {
     // Two effects whose first ticks are worked out by hand in EXAMPLE_AFTER and EXAMPLE_COUNTS.
     private static final String EXAMPLE = "E2" + "080" + "100" + "20" + "00" + "05"
         + "5" + "0900" + "0100" + "200" + "25" + "00"
@@ -81,53 +77,6 @@ final class PromiseTests {
         forecastsChangeNothing();
         failedCallsChangeNothing();
         Due.end("PromiseTests");
-    }
-
-    // ---- helpers
-
-    private static void type(EffectTrain train, String text) {
-        train.clearText();
-        for (int k = 0; k < text.length(); k++) {
-            train.append(text.charAt(k));
-        }
-    }
-
-    private static EffectTrain train(String text) {
-        EffectTrain train = new EffectTrain();
-        type(train, text);
-        train.load();
-        return train;
-    }
-
-    /** Everything that can be looked at, in one text. */
-    private static String look(EffectTrain train) {
-        StringBuilder all = new StringBuilder();
-        for (int what = 0; what <= 9; what++) {
-            all.append(train.about(what)).append(' ').append(train.total(what)).append(' ');
-            for (int i = 0; i < train.about(0); i++) {
-                all.append(train.effect(i, what)).append(' ');
-            }
-            all.append('\n');
-        }
-        return all.toString();
-    }
-
-    private static void effectIs(String what, EffectTrain train, int i, int... due) {
-        for (int k = 0; k < due.length; k++) {
-            Due.same(what + " effect(" + i + ", " + k + ")", due[k], train.effect(i, k));
-        }
-    }
-
-    private static void countsAre(String what, EffectTrain train, int... due) {
-        for (int k = 0; k < due.length; k++) {
-            Due.same(what + " total(" + k + ")", due[k], train.total(k));
-        }
-    }
-
-    private static void aboutIs(String what, EffectTrain train, int... due) {
-        for (int k = 0; k < due.length; k++) {
-            Due.same(what + " about(" + k + ")", due[k], train.about(k));
-        }
     }
 
     // ---- the object and its text
@@ -848,7 +797,8 @@ final class PromiseTests {
 
     private static void bestTurnsOthers() {
         // the first one of two lets only 500 / 109 = 4 through
-        EffectTrain clogged = train("E2" + "050" + "000" + "00" + "00" + "05" + "5400000000000099" + "5400000000000000");
+        EffectTrain clogged = train("E2" + "050" + "000" + "00" + "00" + "05"
+            + "5400000000000099" + "5400000000000000");
         Due.same("a clogged first one is washed at once", 0, clogged.bestTurns(1, true));
         Due.same("the other one gets the steam", 250, clogged.bestTurns(1, false));
         clogged.wash(0, 20);
