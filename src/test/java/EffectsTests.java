@@ -226,9 +226,8 @@ final class EffectsTests extends Bench {
         says = "its thickness is 100 * solids / amount, rounded down, or 0 without any amount;")
     static void thicknessIsRoundedDown() {
         int[][] waterSolidsThickness = {{0, 0, 0}, {1, 0, 0}, {0, 1, 100}, {0, 1000, 100}, {4000, 0, 0},
-            {4000, 1000, 20}, {99, 1, 1}, {100, 1, 0}, {2, 1, 33}, {1, 2, 66}, {1, 999, 99}, {10, 989, 98}, {50, 50, 50},
-            {51, 50, 49},
-            {4000, 40, 0}, {3960, 40, 1}};
+            {4000, 1000, 20}, {99, 1, 1}, {100, 1, 0}, {2, 1, 33}, {1, 2, 66}, {1, 999, 99}, {10, 989, 98},
+            {50, 50, 50}, {51, 50, 49}, {4000, 40, 0}, {3960, 40, 1}};
         for (int[] liquor : waterSolidsThickness) {
             EffectTrain train = train(0, 0, 0, 0, 5, effect(5, liquor[0], liquor[1], 0, 0, 0), DRY);
             Due.same("thickness of " + liquor[0] + " and " + liquor[1], liquor[2], train.effect(0, 8));

@@ -207,6 +207,11 @@ final class ForecastTests extends Bench {
         Due.call("a turn, no wash", 250, () -> train.bestTurns(1, false));
         Due.call("two turns, one wash", 125 + 575, () -> train.bestTurns(2, false));
         Due.call("three turns, two washes", 125 + 450 + 900, () -> train.bestTurns(3, false));
+        // the length is that of the turns of the interval, not of these
+        for (int length : new int[] {1, 20}) {
+            train.set(4, length);
+            Due.call("two turns, the length " + length, 125 + 575, () -> train.bestTurns(2, false));
+        }
     }
 
     @Sentence(in = "Promise 22", says = "`k`: number of turns, 1 to 3")
@@ -215,6 +220,9 @@ final class ForecastTests extends Bench {
         Due.call("1 turn", 50, () -> train.bestTurns(1, false));
         Due.call("2 turns", 100, () -> train.bestTurns(2, false));
         Due.call("3 turns", 150, () -> train.bestTurns(3, false));
+        EffectTrain six = train(10, 0, 0, 0, 5, CLEAN, CLEAN, CLEAN, CLEAN, CLEAN, CLEAN);
+        Due.call("3 turns of six effects", 900, () -> six.bestTurns(3, false));
+        Due.call("3 turns of six effects, none is washed", -1, () -> six.bestTurns(3, true));
     }
 
     @Sentence(in = "Promise 22", says = "Throws `IllegalArgumentException` if k is out of range")
@@ -340,6 +348,8 @@ final class ForecastTests extends Bench {
         Due.call("of one that never scales", NONE, () -> slow.scaledAfter(1, 1));
         EffectTrain scaled = train(10, 10, 0, 1, 20, effect(5, 0, 0, 0, 0, 40), DRY);
         Due.call("at first, before it is washed", 0, () -> scaled.scaledAfter(0, 40));
+        Due.call("more than so much at first", 0, () -> scaled.scaledAfter(0, 39));
+        Due.call("far more than so much at first", 0, () -> scaled.scaledAfter(0, 1));
         Due.call("never, it is washed", NONE, () -> scaled.scaledAfter(0, 41));
     }
 

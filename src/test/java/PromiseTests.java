@@ -127,9 +127,9 @@ final class PromiseTests extends Bench {
         Due.same("clearText of a whole text", 46, train.clearText());
         Due.state("load of the cleared text", train::load);
         for (int length = 0; length < EXAMPLE.length(); length++) {
-            type(train, EXAMPLE);
-            type(train, EXAMPLE.substring(0, length));
-            Due.same("errorPosition, characters from before the clearing", length, train.errorPosition());
+            EffectTrain retyped = typed(EXAMPLE);
+            type(retyped, EXAMPLE.substring(0, length));
+            Due.same("errorPosition, characters from before the clearing", length, retyped.errorPosition());
         }
     }
 

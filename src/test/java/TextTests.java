@@ -248,10 +248,12 @@ final class TextTests extends Bench {
         }
         positionIs(46, with(BUSY, N, "3"));
         // not a character of an earlier, longer text is seen
-        EffectTrain train = typed(SIX);
-        type(train, SIX.substring(0, 100));
-        Due.same("errorPosition after a longer text", 100, train.errorPosition());
-        Due.state("load after a longer text", train::load);
+        for (int length = 0; length < BUSY.length(); length++) {
+            EffectTrain train = typed(BUSY);
+            type(train, BUSY.substring(0, length));
+            Due.same("errorPosition after a longer text", length, train.errorPosition());
+            Due.state("load after a longer text", train::load);
+        }
     }
 
     // ---- append

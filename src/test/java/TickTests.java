@@ -61,6 +61,12 @@ final class TickTests extends Bench {
         eachIs("the last tick of a wash", train, 7, 0, 0);
         train.tick(1);
         eachIs("the tick after it", train, 7, 0, 4);
+        EffectTrain last = scaled(1, 5, 60, 50);
+        last.wash(1, 2);
+        last.tick(1);
+        eachIs("the last one is washed", last, 7, 0, 1);
+        last.tick(2);
+        eachIs("then the turn of the first one begins", last, 7, 4, 0);
     }
 
     @Sentence(in = "A TICK", says = "the effect with the most scale (among several the first one) begins to be washed,")
@@ -197,7 +203,7 @@ final class TickTests extends Bench {
     @Sentence(in = "A TICK", says = "Of the vapor, vapor * bleed / 100, rounded down, is bled,")
     static void part2BledVaporIsRoundedDown() {
         int[][] vaporBleedBled = {{10, 0, 0}, {10, 9, 0}, {10, 10, 1}, {10, 19, 1}, {10, 20, 2}, {10, 90, 9},
-            {1, 90, 0}, {2, 50, 1}, {2, 49, 0}, {90, 90, 81}, {89, 90, 80}, {0, 90, 0}};
+            {11, 9, 0}, {23, 13, 2}, {1, 90, 0}, {2, 50, 1}, {2, 49, 0}, {90, 90, 81}, {89, 90, 80}, {0, 90, 0}};
         for (int[] c : vaporBleedBled) {
             EffectTrain train = train(c[0], 0, 0, 0, 5, effect(9, 4000, 0, 0, c[1], 0), DRY);
             train.tick(1);
