@@ -72,7 +72,7 @@ final class BoundaryTests {
             Due.same("\"" + words[1] + "\" stands in " + words[0], true, document.quote(words[0], words[1]));
         }
         for (String section : document.sections()) {
-            if (section.startsWith("Promise ") || section.matches("[A-Z ]+")) {
+            if (section.startsWith("Promise ") || section.matches("[A-Z][A-Z ]+")) {
                 Due.same(section, "[]", document.notQuoted(section).toString());
             }
         }

@@ -21,7 +21,7 @@ final class Document {
         for (String line : Files.readAllLines(path)) {
             if (line.startsWith("#")) {
                 section = line.replaceAll("^#+ *", "").replaceAll(":.*", "");
-            } else if (line.matches("[A-Z ]+")) {
+            } else if (line.matches("[A-Z][A-Z ]+")) {
                 section = line;
             } else if (!line.matches("`[^`]*`")) {
                 // A line that is all code repeats the signature: FaceTest looks after those.
