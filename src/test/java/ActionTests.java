@@ -182,32 +182,46 @@ final class ActionTests extends Bench {
 
     // ---- tick
 
-    @Sentence(in = "Promise 12", says = {"Lets ticks pass. (Together they are one action.)",
-        "Returns the vapor of these ticks."})
-    static void ticksTogetherAreOneAction() {
+    @Sentence(in = "Promise 12", says = "Returns the vapor of these ticks.")
+    static void tickReturnsTheVaporOfTheseTicksAlone() {
+        Due.call("a tick of nothing", 0, () -> new EffectTrain().tick(1));
         EffectTrain train = train(BUSY);
+        Due.call("the first tick", 71, () -> train.tick(1));
         EffectTrain steps = train(BUSY);
         int vapor = 0;
         for (int k = 0; k < 99; k++) {
             vapor += steps.tick(1);
         }
-        Due.call("99 ticks", vapor, () -> train.tick(99));
+        Due.call("98 ticks more", vapor - 71, () -> train.tick(98));
+    }
+
+    @Sentence(in = "Promise 12", says = "Lets ticks pass. (Together they are one action.)")
+    static void ticksTogetherAreOneAction() {
+        EffectTrain train = train(BUSY);
+        EffectTrain steps = train(BUSY);
+        for (int k = 0; k < 99; k++) {
+            steps.tick(1);
+        }
+        train.tick(99);
         Due.same("99 ticks at once", look(steps), look(train));
-        Due.call("their vapor alone is told", steps.growth(5, 1), () -> train.tick(5));
+        train.tick(5);
         Due.same("actions", 2, undoAll(train));
         Due.same("the clock", 0, train.about(6));
         Due.same("actions of a tick each", 14, undoAll(steps));
         Due.same("the clock of these", 85, steps.about(6));
     }
 
-    @Sentence(in = "Promise 12", says = {"`m`: number of ticks, 1 to 99",
-        "Throws `IllegalArgumentException` if m is out of range"})
+    @Sentence(in = "Promise 12", says = "`m`: number of ticks, 1 to 99")
     static void tickTakes1To99() {
         for (int m : new int[] {1, 2, 98, 99}) {
             EffectTrain train = train(BUSY);
             train.tick(m);
             Due.same("the clock after " + m, m, train.about(6));
         }
+    }
+
+    @Sentence(in = "Promise 12", says = "Throws `IllegalArgumentException` if m is out of range")
+    static void tickOfANumberOutOfRange() {
         for (int m : new int[] {0, 100, -1, NONE, MIN, MAX}) {
             refusedArgument("tick " + m, Bench::busy, x -> x.tick(m));
         }
@@ -215,9 +229,20 @@ final class ActionTests extends Bench {
 
     // ---- set
 
-    @Sentence(in = "Promise 13", says = {"Changes a number of the train.",
-        "`what`: 0: the steam; 1: the feed of water; 2: the feed of solids; 3: the interval; 4: the length",
-        "`v`: new number, in its range", "Returns the previous number."})
+    @Sentence(in = "Promise 13", says = {"Changes a number of the train.", "Returns the previous number.",
+        "`what`: 0: the steam; 1: the feed of water; 2: the feed of solids; 3: the interval; 4: the length"})
+    static void setTakesWhatFrom0To4() {
+        EffectTrain train = train(BUSY);
+        int[] before = {80, 100, 20, 0, 5};
+        for (int what = 0; what <= 4; what++) {
+            int w = what;
+            Due.call("set " + w, before[w], () -> train.set(w, 11 + w));
+            Due.call("set " + w + " again", 11 + w, () -> train.set(w, 12 + w));
+        }
+        aboutIs("all are set", train, 2, 12, 13, 14, 15, 16, 0, 0, 1300, 200);
+    }
+
+    @Sentence(in = "Promise 13", says = "`v`: new number, in its range")
     static void setTakesEachNumberInItsRange() {
         int[] greatest = {999, 999, 99, 99, 20};
         int[] before = {80, 100, 20, 0, 5};
@@ -270,14 +295,17 @@ final class ActionTests extends Bench {
         Due.call("setValve to the same", 999, () -> train.setValve(5, 999));
     }
 
-    @Sentence(in = "Promise 14", says = {"`v`: new valve, 0 to 999",
-        "Throws `IllegalArgumentException` if v is out of range"})
+    @Sentence(in = "Promise 14", says = "`v`: new valve, 0 to 999")
     static void setValveTakes0To999() {
         for (int v : new int[] {0, 1, 998, 999}) {
             EffectTrain train = train(BUSY);
             Due.call("setValve to " + v, 50, () -> train.setValve(1, v));
             Due.same("the valve " + v, v, train.effect(1, 3));
         }
+    }
+
+    @Sentence(in = "Promise 14", says = "Throws `IllegalArgumentException` if v is out of range")
+    static void setValveOutOfRange() {
         for (int v : new int[] {-1, 1000, MIN, MAX}) {
             refusedArgument("setValve to " + v, Bench::busy, x -> x.setValve(1, v));
         }
@@ -306,14 +334,17 @@ final class ActionTests extends Bench {
         Due.call("setBleed to the same", 90, () -> train.setBleed(5, 90));
     }
 
-    @Sentence(in = "Promise 15", says = {"`v`: new bleed, 0 to 90",
-        "Throws `IllegalArgumentException` if v is out of range"})
+    @Sentence(in = "Promise 15", says = "`v`: new bleed, 0 to 90")
     static void setBleedTakes0To90() {
         for (int v : new int[] {0, 1, 89, 90}) {
             EffectTrain train = train(BUSY);
             Due.call("setBleed to " + v, 10, () -> train.setBleed(1, v));
             Due.same("the bleed " + v, v, train.effect(1, 4));
         }
+    }
+
+    @Sentence(in = "Promise 15", says = "Throws `IllegalArgumentException` if v is out of range")
+    static void setBleedOutOfRange() {
         for (int v : new int[] {-1, 91, 99, 100, MIN, MAX}) {
             refusedArgument("setBleed to " + v, Bench::busy, x -> x.setBleed(1, v));
         }
@@ -331,13 +362,23 @@ final class ActionTests extends Bench {
 
     // ---- wash
 
-    @Sentence(in = "Promise 16", says = {"Begins to wash an effect. It keeps its water and solids.",
-        "Returns the number of effects that are washed then."})
-    static void washReturnsHowManyAreWashed() {
+    @Sentence(in = "Promise 16", says = "Returns the number of effects that are washed then.")
+    static void washReturnsHowManyAreWashedFrom1ToAll() {
         EffectTrain train = six();
         for (int washed = 1; washed <= 6; washed++) {
+            int ticks = washed;
             int i = 6 - washed;
-            Due.call("wash " + i, washed, () -> train.wash(i, 20));
+            Due.call("wash " + i, washed, () -> train.wash(i, ticks));
+        }
+        train.tick(3);
+        Due.call("wash 5 again", 4, () -> train.wash(5, 1));
+    }
+
+    @Sentence(in = "Promise 16", says = "Begins to wash an effect. It keeps its water and solids.")
+    static void aWashedEffectKeepsItsWaterAndSolids() {
+        EffectTrain train = six();
+        for (int i = 0; i < 6; i++) {
+            train.wash(i, 20);
         }
         train.tick(20);
         eachIs("the water that is kept", train, 1, 100, 200, 300, 400, 500, 600);
@@ -345,8 +386,7 @@ final class ActionTests extends Bench {
         Due.call("wash 3 again", 1, () -> train.wash(3, 1));
     }
 
-    @Sentence(in = "Promise 16", says = {"`ticks`: 1 to 20 (the next tick is the first of them)",
-        "Throws `IllegalArgumentException` if ticks is out of range"})
+    @Sentence(in = "Promise 16", says = "`ticks`: 1 to 20 (the next tick is the first of them)")
     static void washTakes1To20() {
         for (int ticks : new int[] {1, 2, 19, 20}) {
             EffectTrain train = six();
@@ -356,6 +396,10 @@ final class ActionTests extends Bench {
             Due.same("ticks left after the first of " + ticks, ticks - 1, train.effect(5, 7));
             Due.same("the scale after the first of " + ticks, 0, train.effect(5, 5));
         }
+    }
+
+    @Sentence(in = "Promise 16", says = "Throws `IllegalArgumentException` if ticks is out of range")
+    static void washForTicksOutOfRange() {
         for (int ticks : new int[] {0, 21, -1, MIN, MAX}) {
             refusedArgument("wash for " + ticks, Bench::busy, x -> x.wash(0, ticks));
             refusedArgument("wash of a washed one for " + ticks, Bench::busy, x -> x.wash(1, ticks));

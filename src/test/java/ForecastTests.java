@@ -36,7 +36,7 @@ final class ForecastTests extends Bench {
     // ---- ahead
 
     @Sentence(in = "Promise 19", says = {"Tells a number of an effect after ticks without other changes.",
-        "`what`: 0 to 9, as for effect()", "Returns that number."})
+        "Returns that number."})
     static void aheadTellsWhatTicksWillBring() {
         for (int m : new int[] {0, 1, 2, 98, 99}) {
             EffectTrain train = train(BUSY);
@@ -57,11 +57,28 @@ final class ForecastTests extends Bench {
         Due.same("ticks left in 20 ticks", 0, washed.ahead(5, 20, 7));
     }
 
-    @Sentence(in = "Promise 19", says = {"`m`: number of ticks, 0 to 99",
-        "Throws `IllegalArgumentException` if m or what is out of range"})
+    @Sentence(in = "Promise 19", says = "`m`: number of ticks, 0 to 99")
     static void aheadTakes0To99() {
         Due.call("ahead by 0", 900, () -> train(BUSY).ahead(0, 0, 1));
         Due.call("ahead by 1", 773, () -> train(BUSY).ahead(0, 1, 1));
+        EffectTrain later = train(BUSY);
+        later.tick(98);
+        Due.call("ahead by 98", later.effect(0, 1), () -> train(BUSY).ahead(0, 98, 1));
+        later.tick(1);
+        Due.call("ahead by 99", later.effect(0, 1), () -> train(BUSY).ahead(0, 99, 1));
+    }
+
+    @Sentence(in = "Promise 19", says = "`what`: 0 to 9, as for effect()")
+    static void aheadTakesWhatFrom0To9() {
+        int[] due = {4, 516, 111, 50, 10, 6, 46, 0, 17, 25};
+        for (int what = 0; what <= 9; what++) {
+            int w = what;
+            Due.call("ahead by 1 for " + w, due[w], () -> train(BUSY).ahead(1, 1, w));
+        }
+    }
+
+    @Sentence(in = "Promise 19", says = "Throws `IllegalArgumentException` if m or what is out of range")
+    static void aheadOfNumbersOutOfRange() {
         for (int m : new int[] {-1, 100, MIN, MAX}) {
             refusedArgument("ahead by " + m, Bench::busy, x -> x.ahead(0, m, 0));
             refusedArgument("ahead by " + m + " for 10", Bench::busy, x -> x.ahead(0, m, 10));
@@ -86,7 +103,7 @@ final class ForecastTests extends Bench {
     // ---- growth
 
     @Sentence(in = "Promise 20", says = {"Tells by how much a count grows in ticks without other changes.",
-        "`what`: 0 to 9, as for total()", "Returns that number."})
+        "Returns that number."})
     static void growthTellsWhatTicksWillAdd() {
         for (int m : new int[] {1, 2, 98, 99}) {
             EffectTrain train = busy();
@@ -102,21 +119,30 @@ final class ForecastTests extends Bench {
             }
         }
         EffectTrain train = train(BUSY);
-        int[] due = {80, 71, 14, 21, 45, 100, 20, 40, 10, 0};
-        for (int what = 0; what <= 9; what++) {
-            Due.same("growth 1 " + what, due[what], train.growth(1, what));
-        }
         train.wash(0, 20);
         train.wash(1, 20);
         Due.same("steam used when none works", 0, train.growth(20, 0));
         Due.same("held back when none works", 20, train.growth(20, 9));
     }
 
-    @Sentence(in = "Promise 20", says = {"`m`: number of ticks, 1 to 99",
-        "Throws `IllegalArgumentException` if m or what is out of range"})
+    @Sentence(in = "Promise 20", says = "`what`: 0 to 9, as for total()")
+    static void growthTakesWhatFrom0To9() {
+        int[] due = {80, 71, 14, 21, 45, 100, 20, 40, 10, 0};
+        for (int what = 0; what <= 9; what++) {
+            int w = what;
+            Due.call("growth 1 " + w, due[w], () -> train(BUSY).growth(1, w));
+        }
+    }
+
+    @Sentence(in = "Promise 20", says = "`m`: number of ticks, 1 to 99")
     static void growthTakes1To99() {
-        Due.call("growth in 1", 80, () -> train(BUSY).growth(1, 0));
-        Due.call("growth in 99", 80 * 99, () -> train(BUSY).growth(99, 0));
+        for (int m : new int[] {1, 2, 98, 99}) {
+            Due.call("growth in " + m, 80 * m, () -> train(BUSY).growth(m, 0));
+        }
+    }
+
+    @Sentence(in = "Promise 20", says = "Throws `IllegalArgumentException` if m or what is out of range")
+    static void growthOfNumbersOutOfRange() {
         for (int m : new int[] {0, 100, -1, MIN, MAX}) {
             refusedArgument("growth in " + m, Bench::busy, x -> x.growth(m, 0));
         }
@@ -147,17 +173,27 @@ final class ForecastTests extends Bench {
         Due.call("a wash that would begin anyway", 0, () -> turn.washGain(0, 5, 99));
     }
 
-    @Sentence(in = "Promise 21", says = {"`ticks`: 1 to 20", "`m`: number of ticks, 1 to 99",
-        "Throws `IllegalArgumentException` if ticks or m is out of range"})
-    static void washGainTakes1To20And1To99() {
-        EffectTrain train = train(50, 0, 0, 0, 5, effect(9, 4000, 0, 0, 0, 0), DRY);
-        Due.call("a tick of washing in a tick", -50, () -> train.washGain(0, 1, 1));
-        Due.call("20 ticks of washing in a tick", -50, () -> train.washGain(0, 20, 1));
-        Due.call("20 ticks of washing in 20", -1000, () -> train.washGain(0, 20, 20));
-        Due.call("a tick of washing in 80", -50, () -> train.washGain(0, 1, 80));
-        // 4000 are boiled off in 80 ticks; 20 more make up for the wash
-        Due.call("19 ticks of washing in 99", 0, () -> train.washGain(0, 19, 99));
-        Due.call("20 ticks of washing in 99", -50, () -> train.washGain(0, 20, 99));
+    @Sentence(in = "Promise 21", says = "`ticks`: 1 to 20")
+    static void washGainTakes1To20TicksOfWashing() {
+        EffectTrain train = train(50, 0, 0, 0, 5, CLEAN, DRY);
+        for (int ticks : new int[] {1, 2, 19, 20}) {
+            Due.call(ticks + " ticks of washing in 20", -50 * ticks, () -> train.washGain(0, ticks, 20));
+        }
+    }
+
+    @Sentence(in = "Promise 21", says = "`m`: number of ticks, 1 to 99")
+    static void washGainTakes1To99Ticks() {
+        EffectTrain train = train(50, 0, 0, 0, 5, CLEAN, DRY);
+        Due.call("a wash in a tick", -50, () -> train.washGain(0, 20, 1));
+        Due.call("a wash in 2 ticks", -100, () -> train.washGain(0, 20, 2));
+        // without a wash the 4000 of water have boiled off after 80 ticks
+        Due.call("a wash in 98 ticks", -100, () -> train.washGain(0, 20, 98));
+        Due.call("a wash in 99 ticks", -50, () -> train.washGain(0, 20, 99));
+        Due.call("a shorter wash in 99 ticks", 0, () -> train.washGain(0, 19, 99));
+    }
+
+    @Sentence(in = "Promise 21", says = "Throws `IllegalArgumentException` if ticks or m is out of range")
+    static void washGainOfNumbersOutOfRange() {
         for (int ticks : new int[] {0, 21, -1, MIN, MAX}) {
             refusedArgument("washGain for " + ticks, Bench::busy, x -> x.washGain(0, ticks, 1));
             refusedArgument("washGain of a washed one for " + ticks, Bench::busy, x -> x.washGain(1, ticks, 1));
@@ -324,17 +360,14 @@ final class ForecastTests extends Bench {
     // ---- scaledAfter
 
     @Sentence(in = "Promise 23", says = {"Tells when an effect becomes too scaled.",
-        "Returns the smallest number of ticks, 0 to 200, after which (without other changes) its scale is at least so much;",
-        "NONE if there is none."})
+        "Returns the smallest number of ticks, 0 to 200, after which (without other changes)"
+        + " its scale is at least so much;"})
     static void scaledAfter0To200Ticks() {
         // a growth of 5 a tick: 10 of vapor in liquor of the thickness 5
         EffectTrain slow = train(10, 10, 0, 0, 5, effect(5, 950, 50, 0, 0, 0), DRY);
         Due.call("after 200 ticks", 200, () -> slow.scaledAfter(0, 1));
         slow.tick(1);
         Due.call("after 199 ticks", 199, () -> slow.scaledAfter(0, 1));
-        slow.undo();
-        slow.wash(0, 1);
-        Due.call("after 201 ticks", NONE, () -> slow.scaledAfter(0, 1));
         slow.undo();
         slow.tick(99);
         slow.tick(99);
@@ -344,23 +377,35 @@ final class ForecastTests extends Bench {
         slow.tick(1);
         Due.call("after no tick", 0, () -> slow.scaledAfter(0, 1));
         Due.call("the next one", 200, () -> slow.scaledAfter(0, 2));
-        Due.call("the next but one", NONE, () -> slow.scaledAfter(0, 3));
-        Due.call("of one that never scales", NONE, () -> slow.scaledAfter(1, 1));
         EffectTrain scaled = train(10, 10, 0, 1, 20, effect(5, 0, 0, 0, 0, 40), DRY);
         Due.call("at first, before it is washed", 0, () -> scaled.scaledAfter(0, 40));
         Due.call("more than so much at first", 0, () -> scaled.scaledAfter(0, 39));
         Due.call("far more than so much at first", 0, () -> scaled.scaledAfter(0, 1));
-        Due.call("never, it is washed", NONE, () -> scaled.scaledAfter(0, 41));
     }
 
-    @Sentence(in = "Promise 23", says = {"`scale`: 1 to 99",
-        "Throws `IllegalArgumentException` if scale is out of range"})
+    @Sentence(in = "Promise 23", says = "NONE if there is none.")
+    static void scaledAfterMoreThan200Ticks() {
+        EffectTrain slow = train(10, 10, 0, 0, 5, effect(5, 950, 50, 0, 0, 0), DRY);
+        Due.call("scale 1 after 200 ticks", 200, () -> slow.scaledAfter(0, 1));
+        Due.call("scale 2 after 400 ticks", NONE, () -> slow.scaledAfter(0, 2));
+        Due.call("of one that never scales", NONE, () -> slow.scaledAfter(1, 1));
+        slow.wash(0, 1);
+        Due.call("scale 1 after 201 ticks", NONE, () -> slow.scaledAfter(0, 1));
+        EffectTrain washed = train(10, 10, 0, 1, 20, effect(5, 0, 0, 0, 0, 40), DRY);
+        Due.call("of one that is washed", NONE, () -> washed.scaledAfter(0, 41));
+    }
+
+    @Sentence(in = "Promise 23", says = "`scale`: 1 to 99")
     static void scaledAfterTakes1To99() {
         EffectTrain most = train(0, 0, 0, 0, 5, effect(5, 0, 0, 0, 0, 99), effect(5, 0, 0, 0, 0, 1));
         Due.call("scale 99 of 99", 0, () -> most.scaledAfter(0, 99));
         Due.call("scale 99 of 1", NONE, () -> most.scaledAfter(1, 99));
         Due.call("scale 1 of 1", 0, () -> most.scaledAfter(1, 1));
         Due.call("scale 2 of 1", NONE, () -> most.scaledAfter(1, 2));
+    }
+
+    @Sentence(in = "Promise 23", says = "Throws `IllegalArgumentException` if scale is out of range")
+    static void scaledAfterOfAScaleOutOfRange() {
         for (int scale : new int[] {0, 100, -1, MIN, MAX}) {
             refusedArgument("scaledAfter " + scale, Bench::busy, x -> x.scaledAfter(0, scale));
         }
@@ -411,16 +456,30 @@ final class ForecastTests extends Bench {
         Due.call("steam for 1 without water", NONE, () -> dry.steamFor(1, 20));
     }
 
-    @Sentence(in = "Promise 24", says = {"`vapor`: 0 to 9999", "`m`: number of ticks, 1 to 20",
-        "Throws `IllegalArgumentException` if vapor or m is out of range"})
-    static void steamForTakes0To9999And1To20() {
+    @Sentence(in = "Promise 24", says = "`vapor`: 0 to 9999")
+    static void steamForTakesVaporFrom0To9999() {
         EffectTrain train = train(500, 0, 0, 0, 5, CLEAN, CLEAN, CLEAN, CLEAN, CLEAN, CLEAN);
-        Due.call("steam for 0 in 1", 0, () -> train.steamFor(0, 1));
-        Due.call("steam for 0 in 20", 0, () -> train.steamFor(0, 20));
+        Due.call("steam for 0", 0, () -> train.steamFor(0, 20));
+        Due.call("steam for 1", 1, () -> train.steamFor(1, 20));
         // 84 * 6 * 20 is 10080, 83 * 6 * 20 is 9960
-        Due.call("steam for 9999 in 20", 84, () -> train.steamFor(9999, 20));
-        Due.call("steam for 9960 in 20", 83, () -> train.steamFor(9960, 20));
-        Due.call("steam for 9999 in 1", NONE, () -> train.steamFor(9999, 1));
+        Due.call("steam for 9960", 83, () -> train.steamFor(9960, 20));
+        Due.call("steam for 9961", 84, () -> train.steamFor(9961, 20));
+        Due.call("steam for 9999", 84, () -> train.steamFor(9999, 20));
+    }
+
+    @Sentence(in = "Promise 24", says = "`m`: number of ticks, 1 to 20")
+    static void steamForTakes1To20Ticks() {
+        EffectTrain train = train(500, 0, 0, 0, 5, CLEAN, CLEAN, CLEAN, CLEAN, CLEAN, CLEAN);
+        int[][] ticksAndSteam = {{1, 38}, {2, 19}, {19, 2}, {20, 2}};
+        for (int[] c : ticksAndSteam) {
+            Due.call("steam for 228 in " + c[0], c[1], () -> train.steamFor(228, c[0]));
+        }
+        Due.call("steam for 120 in 19", 2, () -> train.steamFor(120, 19));
+        Due.call("steam for 120 in 20", 1, () -> train.steamFor(120, 20));
+    }
+
+    @Sentence(in = "Promise 24", says = "Throws `IllegalArgumentException` if vapor or m is out of range")
+    static void steamForNumbersOutOfRange() {
         for (int vapor : new int[] {-1, 10000, NONE, MIN, MAX}) {
             refusedArgument("steamFor " + vapor, Bench::busy, x -> x.steamFor(vapor, 1));
         }

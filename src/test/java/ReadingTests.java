@@ -40,7 +40,7 @@ final class ReadingTests extends Bench {
     }
 
     @Sentence(in = "Promise 6", says = {"8: the sum of the water of all effects;", "9: the sum of their solids"})
-    static void aboutTheSumsFromNothingToAllThatIsPossible() {
+    static void aboutTheSumsFromNothingToAllThereCanBe() {
         Due.same("water of a new object", 0, new EffectTrain().about(8));
         Due.same("solids of a new object", 0, new EffectTrain().about(9));
         String full = effect(1, 4000, 1000, 0, 0, 0);
@@ -222,16 +222,24 @@ final class ReadingTests extends Bench {
         Due.same("economy after undo", 0f, washed.economy());
     }
 
-    @Sentence(in = "Promise 11", says = {
-        "Returns how thick an effect is: its solids divided by its amount, both converted to float.",
-        "Returns that number; 0 without any amount."})
+    @Sentence(in = "Promise 11", says = "Returns that number; 0 without any amount.")
+    static void shareWithoutAnyAmount() {
+        Due.same("share of an empty effect", 0f, new EffectTrain().share(1));
+        EffectTrain emptied = train(0, 0, 0, 0, 5, effect(9, 1, 1, 2, 0, 0), effect(9, 0, 0, 0, 0, 0));
+        Due.same("share of two units", 0.5f, emptied.share(0));
+        emptied.tick(1);
+        Due.same("share of an effect that has been emptied", 0f, emptied.share(0));
+        Due.same("share of an effect that has been filled", 0.5f, emptied.share(1));
+    }
+
+    @Sentence(in = "Promise 11",
+        says = "Returns how thick an effect is: its solids divided by its amount, both converted to float.")
     static void shareFrom0To1() {
-        Object[][] cases = {{0, 0, 0f}, {1, 0, 0f}, {4000, 0, 0f}, {0, 1, 1f}, {0, 1000, 1f}, {4000, 1000, 0.2f},
+        Object[][] cases = {{1, 0, 0f}, {4000, 0, 0f}, {0, 1, 1f}, {0, 1000, 1f}, {4000, 1000, 0.2f},
             {2, 1, 1f / 3f}, {1, 2, 2f / 3f}, {3999, 1, 1f / 4000f}, {1, 999, 999f / 1000f}};
         for (Object[] c : cases) {
             EffectTrain train = train(0, 0, 0, 0, 5, DRY, effect(9, (int) c[0], (int) c[1], 0, 0, 0));
             Due.same("share of " + c[0] + " and " + c[1], c[2], train.share(1));
-            Due.same("share without any amount", 0f, train.share(0));
         }
     }
 

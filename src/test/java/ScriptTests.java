@@ -33,16 +33,31 @@ final class ScriptTests extends Bench {
         Due.same("none is washed", NONE, again.runScript(1, 70000L));
     }
 
-    @Sentence(in = "Promise 25", says = {"A script has 1 to 3 commands;",
-        "each is a group of five decimal digits d1 to d5,", "and the first command is the highest group of the number",
-        "(with zeros before it, if it has fewer digits)."})
-    static void theFirstCommandIsTheHighestGroup() {
+    @Sentence(in = "Promise 25", says = "A script has 1 to 3 commands;")
+    static void aScriptHas1To3Commands() {
         script(NONE, 1, 41020L);
+        script(NONE, 2, 41020_40001L);
+        script(NONE, 3, 41020_40001_70002L);
+        // a command that is left over is refused, one too few is 00000
+        Due.argument("2 commands for 1", () -> six().runScript(1, 41020_40001L));
+        Due.argument("3 commands for 2", () -> six().runScript(2, 41020_40001_70002L));
+        script(0, 3, 41020_40001L);
+    }
+
+    @Sentence(in = "Promise 25", says = {"each is a group of five decimal digits d1 to d5,",
+        "and the first command is the highest group of the number"})
+    static void theFirstCommandIsTheHighestGroup() {
         script(NONE, 2, 41020_70001L);
         script(0, 2, 70001_41020L);
         script(NONE, 3, 41020_40001_70002L);
         script(2, 3, 41020_70001_40000L);
-        // zeros before it
+        script(0, 3, 70002_41020_40001L);
+    }
+
+    @Sentence(in = "Promise 25", says = "(with zeros before it, if it has fewer digits).")
+    static void aScriptOfFewerDigitsHasZerosBeforeIt() {
+        script(0, 1, 1L);
+        script(0, 1, 9999L);
         script(0, 2, 41020L);
         script(0, 3, 41020L);
         script(0, 3, 41020_70001L);
@@ -175,11 +190,64 @@ final class ScriptTests extends Bench {
         Due.same("999 of 1000", FAILS, used.runScript(1, 80999L));
     }
 
+    @Sentence(in = "Promise 25",
+        says = "The commands 1 to 4 fail if the method with this effect would throw an exception;")
+    static void commands1To4FailWhereTheMethodsWouldThrow() {
+        one(FAILS, 10000);
+        one(NONE, 10001);
+        one(NONE, 20000);
+        one(NONE, 20999);
+        one(NONE, 31000);
+        one(NONE, 31999);
+        one(FAILS, 32000);
+        one(FAILS, 40000);
+        one(NONE, 40001);
+        one(NONE, 40020);
+        one(FAILS, 40021);
+        script(1, 2, 40020_40001L);
+        script(2, 3, 40020_10019_40001L);
+        script(NONE, 3, 40020_10020_40001L);
+    }
+
+    @Sentence(in = "Promise 25", says = "commands with effects that do not exist fail,")
+    static void commandsWithEffectsThatDoNotExistFail() {
+        int[] commands = {30001, 40001, 50000, 60099};
+        for (int command : commands) {
+            for (int i = 0; i <= 9; i++) {
+                long group = command + 1000 * i;
+                Due.call("the group " + group + " on two effects", i < 2 ? NONE : FAILS,
+                    () -> train(BUSY).runScript(1, group));
+                Due.call("the group " + group + " on six effects", i < 6 ? NONE : FAILS,
+                    () -> six().runScript(1, group));
+            }
+        }
+    }
+
+    @Sentence(in = "Promise 25", says = {"and so does any other group",
+        "(also one with another digit where a 0 is written)."})
+    static void anyOtherGroupFails() {
+        int[] others = {0, 1, 9999, 90000, 99999};
+        for (int group : others) {
+            one(FAILS, group);
+        }
+        // each of these succeeds as it stands, and with each 0 that is written made another digit it fails
+        int[] commands = {10001, 20100, 40001, 50001, 60099, 70000, 80100};
+        int[][] written = {{1000, 100}, {1000}, {100}, {100}, {100}, {1000, 100, 10}, {1000}};
+        for (int k = 0; k < commands.length; k++) {
+            one(NONE, commands[k]);
+            for (int place : written[k]) {
+                for (int digit = 1; digit <= 9; digit++) {
+                    one(FAILS, commands[k] + digit * place);
+                }
+            }
+        }
+    }
+
     @Sentence(in = "Promise 25", says = {
         "The commands 1 to 4 fail if the method with this effect would throw an exception;",
         "commands with effects that do not exist fail, and so does any other group",
         "(also one with another digit where a 0 is written)."})
-    static void eachGroupSucceedsOrFails() {
+    static void eachOfAllGroupsSucceedsOrFails() {
         EffectTrain train = sixInUse();
         for (int group = 0; group <= 99999; group++) {
             if (group % 300 == 0) {
@@ -240,16 +308,32 @@ final class ScriptTests extends Bench {
         return THICKNESS[i] - 1;
     }
 
-    @Sentence(in = "Promise 25", says = {"`n`: number of commands, 1 to 3",
-        "`script`: the commands, a number of at most 5 * n digits (0 or more)",
-        "Throws `IllegalArgumentException` if n is out of range, or if script is negative or has more than 5 * n digits"})
-    static void scriptsHave1To3CommandsOf5Digits() {
+    @Sentence(in = "Promise 25", says = "`n`: number of commands, 1 to 3")
+    static void runScriptTakes1To3() {
+        script(NONE, 1, 10001L);
+        script(NONE, 2, 10001_10001L);
+        script(NONE, 3, 10001_10001_10001L);
+        Due.argument("runScript 0", () -> six().runScript(0, 0L));
+        Due.argument("runScript 4", () -> six().runScript(4, 10001_10001_10001L));
+    }
+
+    @Sentence(in = "Promise 25", says = "`script`: the commands, a number of at most 5 * n digits (0 or more)")
+    static void runScriptTakesFrom0To5DigitsForEachCommand() {
         script(0, 1, 0L);
         script(0, 2, 0L);
         script(0, 3, 0L);
         script(0, 1, 99999L);
         script(0, 2, 99999_99999L);
         script(0, 3, 99999_99999_99999L);
+        Due.argument("6 digits", () -> six().runScript(1, 1_00000L));
+        Due.argument("11 digits", () -> six().runScript(2, 1_00000_00000L));
+        Due.argument("16 digits", () -> six().runScript(3, 1_00000_00000_00000L));
+        Due.argument("below 0", () -> six().runScript(3, -1L));
+    }
+
+    @Sentence(in = "Promise 25", says = "Throws `IllegalArgumentException` if n is out of range,"
+        + " or if script is negative or has more than 5 * n digits")
+    static void runScriptOutOfRange() {
         for (int n = 1; n <= 3; n++) {
             int commands = n;
             long more = n == 1 ? 1_00000L : n == 2 ? 1_00000_00000L : 1_00000_00000_00000L;
@@ -329,17 +413,19 @@ final class ScriptTests extends Bench {
         Due.same("what there is after it", everything(busy()), everything(busy));
     }
 
-    @Sentence(in = "Promise 26", says = {"A long x starts as the seed.", "Each round first replaces x by"
-        + " x * 6364136223846793005L + 1442695040888963407L (with long overflow), and r = (int) (x >>> 33) is computed;",
-        "`seed`: any long"})
+    @Sentence(in = "Promise 26", says = {"`seed`: any long", "A long x starts as the seed."})
     static void simulateTakesAnySeed() {
-        long[] seeds = {0, 1, -1, 2, Long.MIN_VALUE, Long.MAX_VALUE, Long.MIN_VALUE + 1, 1L << 32, 1L << 63 - 1, 4711};
+        long[] seeds = {0, 1, -1, 2, Long.MIN_VALUE, Long.MAX_VALUE, Long.MIN_VALUE + 1, 1L << 32, 1L << 62, 4711};
         for (long seed : seeds) {
             for (int m : new int[] {1, 2, 99}) {
-                Due.same("simulate " + seed + " " + m, played(six(), seed, m), six().simulate(seed, m));
+                Due.call("simulate " + seed + " " + m, played(six(), seed, m), () -> six().simulate(seed, m));
             }
         }
-        // the least and the greatest r
+    }
+
+    @Sentence(in = "Promise 26", says = "Each round first replaces x by x * 6364136223846793005L + 1442695040888963407L"
+        + " (with long overflow), and r = (int) (x >>> 33) is computed;")
+    static void simulateComputesRFrom0ToTheGreatestInt() {
         EffectTrain train = train(40, 0, 0, 0, 5, CLEAN, CLEAN);
         simulated("r 0", 80, train, 0, 1);
         simulated("the greatest r", 80, train, MAX, 1);
@@ -431,11 +517,15 @@ final class ScriptTests extends Bench {
         }
     }
 
-    @Sentence(in = "Promise 26", says = {"`m`: number of rounds, 1 to 99",
-        "Throws `IllegalArgumentException` if m is out of range"})
+    @Sentence(in = "Promise 26", says = "`m`: number of rounds, 1 to 99")
     static void simulateTakes1To99() {
-        Due.same("1 round", played(six(), 5, 1), six().simulate(5, 1));
-        Due.same("99 rounds", played(six(), 5, 99), six().simulate(5, 99));
+        for (int m : new int[] {1, 2, 98, 99}) {
+            Due.call(m + " rounds", played(six(), 5, m), () -> six().simulate(5, m));
+        }
+    }
+
+    @Sentence(in = "Promise 26", says = "Throws `IllegalArgumentException` if m is out of range")
+    static void simulateOfRoundsOutOfRange() {
         for (int m : new int[] {0, 100, -1, NONE, MIN, MAX}) {
             refusedArgument("simulate " + m, Bench::busy, x -> x.simulate(5L, m));
         }

@@ -133,13 +133,16 @@ final class SlotTests extends Bench {
         Due.same("what there is then", then, look(train));
     }
 
-    @Sentence(in = "Promise 27", says = {"`slot`: 0 or 1",
-        "Throws `IndexOutOfBoundsException` if there is no such save slot"})
-    static void saveTakes0And1() {
+    @Sentence(in = "Promise 27", says = "Throws `IndexOutOfBoundsException` if there is no such save slot")
+    static void saveInNoSuchSlot() {
         for (int slot : NO_SLOTS) {
             refusedIndex("save " + slot, Bench::busy, x -> x.save(slot));
             refusedIndex("save " + slot, EffectTrain::new, x -> x.save(slot));
         }
+    }
+
+    @Sentence(in = "Promise 27", says = "`slot`: 0 or 1")
+    static void saveTakes0And1() {
         for (int slot = 0; slot < 2; slot++) {
             int s = slot;
             EffectTrain train = train(BUSY);
@@ -198,13 +201,16 @@ final class SlotTests extends Bench {
         Due.same("what there is then", saved, look(train));
     }
 
-    @Sentence(in = "Promise 28", says = {"`slot`: 0 or 1",
-        "Throws `IndexOutOfBoundsException` if there is no such save slot"})
-    static void restoreTakes0And1() {
+    @Sentence(in = "Promise 28", says = "Throws `IndexOutOfBoundsException` if there is no such save slot")
+    static void restoreFromNoSuchSlot() {
         for (int slot : NO_SLOTS) {
             refusedIndex("restore " + slot, Bench::busy, x -> x.restore(slot));
             refusedIndex("restore " + slot, EffectTrain::new, x -> x.restore(slot));
         }
+    }
+
+    @Sentence(in = "Promise 28", says = "`slot`: 0 or 1")
+    static void restoreTakes0And1() {
         Due.call("restore 0", 7, () -> busy().restore(0));
         Due.call("restore 1", 12, () -> busy().restore(1));
     }

@@ -270,14 +270,17 @@ final class TextTests extends Bench {
         Due.same("errorPosition of the whole text", NONE, train.errorPosition());
     }
 
-    @Sentence(in = "Promise 2", says = {"`c`: character code, 0 to 255",
-        "Throws `IllegalArgumentException` if c is out of range"})
+    @Sentence(in = "Promise 2", says = "`c`: character code, 0 to 255")
     static void appendTakes0To255() {
         EffectTrain train = new EffectTrain();
         Due.call("append 0", 1, () -> train.append(0));
         Due.call("append 255", 2, () -> train.append(255));
         Due.call("append 1", 3, () -> train.append(1));
         Due.call("append 254", 4, () -> train.append(254));
+    }
+
+    @Sentence(in = "Promise 2", says = "Throws `IllegalArgumentException` if c is out of range")
+    static void appendOfACharacterOutOfRange() {
         for (int c : new int[] {-1, 256, MIN, MAX, 'E' + 256, 'E' + 65536, 'E' - 256}) {
             refusedArgument("append " + c, Bench::busy, x -> x.append(c));
             refusedArgument("append " + c, EffectTrain::new, x -> x.append(c));
