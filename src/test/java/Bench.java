@@ -130,6 +130,10 @@ abstract class Bench {
 
     /** The call throws this, and after it the object can't be told from a twin that has not been asked. */
     static void refused(String what, String due, History history, Asked asked) {
+        // A call that is not refused one beyond its range could run for hours far beyond it.
+        if (Due.wrongInThisTest() > 0) {
+            return;
+        }
         EffectTrain train = history.make();
         Due.same(what, due, Due.outcome(() -> asked.of(train)));
         Due.same("what there is after the refused " + what, everything(history.make()), everything(train));

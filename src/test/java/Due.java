@@ -11,6 +11,7 @@ final class Due {
     private static int wrong = 0;
     private static int compared = 0;
     private static String test = "";
+    private static int wrongBefore = 0;
 
     private Due() {
     }
@@ -18,6 +19,7 @@ final class Due {
     /** Tells which test the answers that follow belong to. */
     static void begin(String name) {
         test = name + ": ";
+        wrongBefore = wrong;
     }
 
     static void same(String what, Object due, Object got) {
@@ -53,6 +55,10 @@ final class Due {
 
     static void state(String what, Call call) {
         call(what, STATE, call);
+    }
+
+    static int wrongInThisTest() {
+        return wrong - wrongBefore;
     }
 
     static int wrongSoFar() {
