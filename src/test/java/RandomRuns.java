@@ -2,13 +2,18 @@ import java.util.Random;
 
 /** Long runs of calls, drawn with fixed seeds, on EffectTrain and on the model side by side. */
 final class RandomRuns {
-    private static final int RUNS = 300;
+    private static final int RUNS = 1500;
+    // What later calls answer is free, so each object is asked no more often than this.
     private static final int CALLS = 512;
+    private static final int CALLS_OF_THE_LAST_LOOK = 146;
+    private static final int CALLS_OF_A_TEXT = 115;
+    private static final int CALLS_OF_A_STEP = 4;
     private static final int WHOLE_TEXT = -1;
 
     private final Random random;
     private final EffectTrain train = new EffectTrain();
     private final Model model = new Model();
+    private int calls = 0;
 
     private RandomRuns(long seed) {
         random = new Random(seed);
@@ -22,14 +27,23 @@ final class RandomRuns {
     }
 
     private void go(int run) {
-        int calls = 0;
-        if (random.nextInt(4) > 0) {
-            calls += typeText(run, WHOLE_TEXT);
+        // Not drawn: the first draws of neighboring seeds are nearly the same.
+        if (run % 4 > 0) {
+            typeText(run + " ", WHOLE_TEXT);
         }
-        while (calls < CALLS && Due.wrongSoFar() == 0) {
-            calls += step(run + "/" + calls + " ", random.nextInt(1000));
-            compareAll(run + "/" + calls + " ");
+        while (isRoomFor(CALLS_OF_A_STEP) && Due.wrongSoFar() == 0) {
+            String at = run + "/" + calls + " ";
+            step(at, random.nextInt(1000));
+            for (int k = 1; k < CALLS_OF_A_STEP; k++) {
+                glance(at);
+            }
         }
+        compareAll(run + "/" + calls + " ");
+        Due.same("the object of run " + run + " is asked " + calls + " times, at most " + CALLS, true, calls <= CALLS);
+    }
+
+    private boolean isRoomFor(int more) {
+        return calls + more + CALLS_OF_THE_LAST_LOOK <= CALLS;
     }
 
     /** Everything that can be looked at without a change. */
@@ -53,20 +67,50 @@ final class RandomRuns {
         both(at + "errorPosition", train::errorPosition, model::errorPosition);
     }
 
-    private static void both(String what, Due.Call got, Due.Call due) {
+    /** One thing that can be looked at without a change. */
+    private void glance(String at) {
+        int i = effect();
+        int what = around(0, 9);
+        switch (random.nextInt(12)) {
+            case 0:
+            case 1:
+                both(at + "about " + what, () -> train.about(what), () -> model.about(what));
+                break;
+            case 2:
+            case 3:
+            case 4:
+                both(at + "total " + what, () -> train.total(what), () -> model.total(what));
+                break;
+            case 5:
+                boolean behind = random.nextBoolean();
+                both(at + "neighbor " + i + " " + behind, () -> train.neighbor(i, behind),
+                    () -> model.neighbor(i, behind));
+                break;
+            case 6:
+                both(at + "share " + i, () -> train.share(i), () -> model.share(i));
+                break;
+            case 7:
+                both(at + "economy", train::economy, model::economy);
+                break;
+            default:
+                both(at + "effect " + i + " " + what, () -> train.effect(i, what), () -> model.effect(i, what));
+                break;
+        }
+    }
+
+    private void both(String what, Due.Call got, Due.Call due) {
+        calls++;
         Due.same(what, Due.outcome(due), Due.outcome(got));
     }
 
-    private int step(String at, int draw) {
-        if (draw < 12) {
-            return typeText(0, random.nextInt(115)) + 1;
-        }
-        if (draw < 600) {
+    private void step(String at, int draw) {
+        if (draw < 30 && isRoomFor(CALLS_OF_A_TEXT + CALLS_OF_A_STEP)) {
+            typeText(at, random.nextInt(115));
+        } else if (draw < 600) {
             act(at, random.nextInt(20));
         } else {
             forecast(at, random.nextInt(12));
         }
-        return 1;
     }
 
     private void act(String at, int kind) {
@@ -211,19 +255,18 @@ final class RandomRuns {
     }
 
     /** Types a text whose character at one index is wrong or missing or too much; then loads it. */
-    private int typeText(int run, int spoilt) {
+    private void typeText(String at, int spoilt) {
         StringBuilder text = new StringBuilder(text());
         if (spoilt != WHOLE_TEXT) {
             spoil(text, Math.min(spoilt, text.length()));
         }
-        both("clearText", train::clearText, model::clearText);
+        both(at + "clearText", train::clearText, model::clearText);
         for (int k = 0; k < text.length(); k++) {
             int c = text.charAt(k);
-            both("append " + c, () -> train.append(c), () -> model.append(c));
+            both(at + "append " + c, () -> train.append(c), () -> model.append(c));
         }
-        both("errorPosition", train::errorPosition, model::errorPosition);
-        both("load of run " + run, train::load, model::load);
-        return text.length() + 3;
+        both(at + "errorPosition", train::errorPosition, model::errorPosition);
+        both(at + "load", train::load, model::load);
     }
 
     private void spoil(StringBuilder text, int at) {
